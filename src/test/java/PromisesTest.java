@@ -429,6 +429,11 @@ public final class PromisesTest {
         x.commit(3);
         due("14: the same value makes STALE", x.put(2, 0, 1), STALE);
         due("14: others aren't stale", x.put(2, 2, 1), 1);
+        x.open(3);
+        x.put(3, 3, 9);
+        x.commit(3);
+        due("14: a later commit makes STALE", x.put(2, 3, 1), STALE);
+        due("14: the earlier one still does", x.put(2, 0, 1), STALE);
     }
 
     private static void promise15Abort() {
