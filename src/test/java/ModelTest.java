@@ -233,7 +233,7 @@ public final class ModelTest {
             case 24: if (random.nextInt(6) == 0) { due(run, "crash", x.crash(), m.crash()); } break;
             case 25: due(run, "committed" + args, x.committed(r), m.committed.getOrDefault(r, 0)); break;
             case 26: due(run, "rows", x.rows(), m.committed.size()); break;
-            default: x.vacuum(); x.flush(); break;
+            default: if (random.nextBoolean()) { x.vacuum(); } else { x.flush(); } break;
         }
     }
 
