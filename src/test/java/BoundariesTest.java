@@ -298,6 +298,7 @@ public final class BoundariesTest extends Sentences {
 
     private static void promises12To21() {
         test("Promise 12: FULL. Otherwise the number of savepoints", BoundariesTest::saveUpToThree);
+        test("Promise 12: FULL leaves the third savepoint as it was", BoundariesTest::fullKeepsTheThird);
         test("Promise 13: Goes back to the last savepoint, which is gone then", BoundariesTest::backRemovesIt);
         test("Promise 13: NONE if there is none", BoundariesTest::backWithout);
         test("Promise 14: Answers how many rows it had changed", () -> countsItsRows(BY_COMMIT));
@@ -325,6 +326,23 @@ public final class BoundariesTest extends Sentences {
         due("back", x.back(0), 2);
         due("save, room for one", x.save(0), 3);
         due("save, full again", x.save(0), FULL);
+    }
+
+    private static void fullKeepsTheThird() {
+        MvccHeap x = heapWith(1, 2);
+        x.open(0);
+        x.save(0);
+        x.save(0);
+        x.put(0, 0, 5);
+        x.save(0);
+        x.put(0, 0, 9);
+        x.drop(0, 1);
+        due("save", x.save(0), FULL);
+        due("get before back", x.get(0, 0), 9);
+        due("back", x.back(0), 2);
+        due("get of the row put", x.get(0, 0), 5);
+        due("get of the row dropped", x.get(0, 1), 2);
+        due("changed", x.changed(0), 1);
     }
 
     private static void backRemovesIt() {

@@ -30,8 +30,8 @@ public final class RefusalsTest {
     }
 
     // Rows 0 to 5 are committed, then transaction 1 opens, then 3 commits changes in rows 2, 3 and 6. Transaction 0 is
-    // open with changes in rows 0, 1, 3 and 7 and two savepoints; 1 with changes in row 4 and three savepoints; 2 with
-    // nothing done; 3 is not open. So row 3 is both BUSY and STALE for 1.
+    // open with changes in rows 0, 1, 3 and 7 and two savepoints; 1 with changes in rows 4 and 5 and three savepoints;
+    // 2 with nothing done; 3 is not open. So row 3 is both BUSY and STALE for 1.
     private static MvccHeap start() {
         MvccHeap x = new MvccHeap();
         x.open(3);
@@ -58,6 +58,7 @@ public final class RefusalsTest {
         x.save(1);
         x.add(1, 4, 1);
         x.save(1);
+        x.put(1, 5, 50);
         x.open(2);
         return x;
     }
